@@ -23,7 +23,7 @@ public final class PledgeMonitor {
     private static final int WRONG_REFERENCE = 200;
     private static final int ROUND = 300;
 
-    // Eight breaches start ten clauses each at the most, and each of these a chain of ten by =.
+    // Eight breaches trigger at most ten clauses each, and each of these begins a chain of at most ten by =.
     private static final int WAITING_MOST = 800;
 
     private static final int ON_START = 's';
@@ -252,6 +252,10 @@ public final class PledgeMonitor {
 
         boolean isOnEvent(int eventParty, int eventKind) {
             return trigger == ON_EVENT && triggerParty == eventParty && triggerKind == eventKind;
+        }
+
+        boolean isOn(int wantedTrigger, int number) {
+            return trigger == wantedTrigger && triggerNumber == number;
         }
 
         boolean isFor(int eventParty, int eventKind) {
@@ -614,11 +618,11 @@ public final class PledgeMonitor {
         }
 
         boolean addDebt(int debtor, int creditor, int amount) {
-            int sum = debtOf(debtor, creditor) + amount;
-            if (sum > DEBT_MOST) {
+            int place = PARTIES * debtor + creditor;
+            if (debts[place] + amount > DEBT_MOST) {
                 return false;
             }
-            debts[PARTIES * debtor + creditor] = sum;
+            debts[place] += amount;
             return true;
         }
 
@@ -721,7 +725,10 @@ public final class PledgeMonitor {
             waitingSize = 0;
             int made = 0;
             for (int i = 0; i < agreement.size; i++) {
-                made += breach(agreement, state, i, state.duties.countUntil(i, state.day));
+                int times = state.duties.countUntil(i, state.day);
+                state.breachCounts[i] += times;
+                awaitAllOn(agreement, ON_BREACH, i, times);
+                made += times;
             }
             state.duties.dropBefore(state.day + 1);
             if (!runWaiting(agreement, state)) {
@@ -737,32 +744,29 @@ public final class PledgeMonitor {
             int made = 0;
             for (int i = 0; i < agreement.size; i++) {
                 if (agreement.clauses[i].isFor(party, kind)) {
-                    made += breach(agreement, state, i, state.bans.countUntil(i, FARTHEST_DAY));
+                    int times = state.bans.countUntil(i, FARTHEST_DAY);
+                    state.breachCounts[i] += times;
+                    awaitAllOn(agreement, ON_BREACH, i, times);
+                    made += times;
                 }
             }
             return made;
         }
 
-        private int breach(Agreement agreement, State state, int clause, int times) {
-            state.breachCounts[clause] += times;
-            for (int i = 0; i < times; i++) {
-                awaitAllOn(agreement, ON_BREACH, clause);
-            }
-            return times;
-        }
-
         private void fulfilDuty(Agreement agreement, State state, int party, int kind) {
             int fulfilled = agreement.find(state.duties, party, kind);
             if (fulfilled != NONE) {
-                awaitAllOn(agreement, ON_FULFILMENT, state.duties.clauseAt(fulfilled));
+                awaitAllOn(agreement, ON_FULFILMENT, state.duties.clauseAt(fulfilled), 1);
                 state.duties.remove(fulfilled, 1);
             }
         }
 
-        private void awaitAllOn(Agreement agreement, int trigger, int clause) {
-            for (int i = 0; i < agreement.size; i++) {
-                if (agreement.clauses[i].trigger == trigger && agreement.clauses[i].triggerNumber == clause) {
-                    await(i);
+        private void awaitAllOn(Agreement agreement, int trigger, int clause, int times) {
+            for (int time = 0; time < times; time++) {
+                for (int i = 0; i < agreement.size; i++) {
+                    if (agreement.clauses[i].isOn(trigger, clause)) {
+                        await(i);
+                    }
                 }
             }
         }
@@ -842,23 +846,16 @@ public final class PledgeMonitor {
                     return 10 + kind;
                 }
             }
-            for (int kind = 0; kind < KINDS; kind++) {
-                if (changes(agreement, from, one, party, kind)) {
-                    int second = secondKind(agreement, one, party, days);
-                    if (second != NONE) {
-                        return 100 + 10 * kind + second;
-                    }
-                }
-            }
-            return NONE;
-        }
-
-        private int secondKind(Agreement agreement, State one, int party, int days) {
             State two = afterTwo[days - 1];
             for (int kind = 0; kind < KINDS; kind++) {
-                if (changes(agreement, one, two, party, kind)
-                        && isKeptByEndOfDay(agreement, two, party, days)) {
-                    return kind;
+                if (!changes(agreement, from, one, party, kind)) {
+                    continue;
+                }
+                for (int second = 0; second < KINDS; second++) {
+                    if (changes(agreement, one, two, party, second)
+                            && isKeptByEndOfDay(agreement, two, party, days)) {
+                        return 100 + 10 * kind + second;
+                    }
                 }
             }
             return NONE;

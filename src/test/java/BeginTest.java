@@ -9,6 +9,7 @@ final class BeginTest {
         businessDays();
         aNewAgreementStartsAnew();
         fullAgreements();
+        anAgreementGoesOnBehindBeginsThatThrow();
         stopEndsIt();
         check.end();
     }
@@ -100,6 +101,23 @@ final class BeginTest {
         check.call("a full one without another", x::begin, Check.UNSUPPORTED);
         check.eq("there is none then", x.today(), -1);
         check.yes("so a day can be free", x.free(3));
+    }
+
+    private static void anAgreementGoesOnBehindBeginsThatThrow() {
+        PledgeMonitor x = Check.begun("Aa>$AB1;Ab>$BC1;s>!Cc9;f2>$CB4");
+        Check.type(x, "Aa>$BA9;Ab>$CB9;s>!Ca9;q");
+        check.call("begin() of no agreement", x::begin, Check.ARGUMENT);
+        x.event(0, 0);
+        check.eq("clause 0 is the old one", x.owed(0, 1), 1);
+        x.erase();
+        Check.type(x, "s>?Aa9;Ab>$CB9" + ";s>=0".repeat(8));
+        check.call("begin() that is full", x::begin, Check.UNSUPPORTED);
+        x.event(0, 1);
+        check.eq("clause 1 is the old one", x.owed(1, 2), 1);
+        check.eq("nothing of the new one", x.owed(2, 1) + x.count(2), 0);
+        x.event(2, 2);
+        check.eq("clause 3 is the old one", x.owed(2, 1), 4);
+        check.eq("breaches(9) of an agreement of four", x.breaches(9), 0);
     }
 
     private static void stopEndsIt() {

@@ -65,6 +65,8 @@ final class CourseTest {
         is("s>!Ab0;f0>!Aa0", 0, 1, 110);
         is("s>!Aa0;f0>!Ab0;f1>!Ac0", 0, 1, -1);
         is("s>!Aa0;s>~Aa0;Ae>?Aa0", 0, 1, 140);
+        is("Ae>?Aa0;s>!Aa0;s>~Aa0", 0, 1, 140);
+        is("s>$AB0;s>$AB0;s>$AB0;s>$AB0;s>$AB0;s>$AB0;s>$AB0;s>!Aa0;s>~Aa0;Ae>?Aa0", 0, 2, 140);
     }
 
     private static void theOrderOfCourses() {

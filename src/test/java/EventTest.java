@@ -94,6 +94,12 @@ final class EventTest {
         check.eq("fulfilled", x.owed(0, 1), 1);
         check.eq("breached", x.owed(0, 2), 1);
         check.eq("no duty is left", x.count(0), 0);
+        PledgeMonitor y = Check.begun("x1>$AB1;s>~Aa9");
+        y.event(0, 0);
+        check.eq("clause 0 is triggered by a breach", y.owed(0, 1), 1);
+        PledgeMonitor z = Check.begun("f1>$AB1;s>!Aa9");
+        z.event(0, 0);
+        check.eq("clause 0 is triggered by a fulfilment", z.owed(0, 1), 1);
     }
 
     private static void whatRunsInWhichOrder() {

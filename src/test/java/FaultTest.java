@@ -9,6 +9,7 @@ final class FaultTest {
         rounds();
         agreements();
         theSizeOfAText();
+        nothingIsLeftOfOtherTexts();
         faultTellsOfTheLatestBegin();
         check.end();
     }
@@ -53,6 +54,11 @@ final class FaultTest {
         fault("s[Aa1]>!Aa1", 3);
         fault("s[AB]>!Aa1", 4);
         fault("s[AB10]>!Aa1", 5);
+        fault("s[>!Aa1", 2);
+        fault("s[A>!Aa1", 3);
+        fault("s[AB>!Aa1", 4);
+        fault("s[1]>!Aa1", 2);
+        fault("s[A1]>!Aa1", 3);
         fault("s[AB1>!Aa1", 5);
         fault("s[AB1][AB1]>!Aa1", 6);
         fault("s[AB1]!Aa1", 6);
@@ -67,6 +73,11 @@ final class FaultTest {
         fault("s>!Aaa", 5);
         fault("s>!Aa12", 6);
         fault("s>!Aa1>", 6);
+        fault("s>!1", 3);
+        fault("s>!A1", 4);
+        fault("s>!a1", 3);
+        fault("s>$1", 3);
+        fault("s>$A1", 4);
         fault("s>$AA1", 4);
         fault("s>$BB1", 4);
         fault("s>$Ab1", 4);
@@ -145,6 +156,24 @@ final class FaultTest {
         String edge = "Aa[AB1]>!Aa1;".repeat(9);
         check.eq("length of the edge", edge.length(), 117);
         fault(edge + "Aa>", 120);
+    }
+
+    private static void nothingIsLeftOfOtherTexts() {
+        PledgeMonitor x = new PledgeMonitor();
+        for (int i = 0; i < 2; i++) {
+            check.eq("begin() of three", Check.begin(x, "Aa>!Aa1;Aa>~Aa1;Aa>!Aa1"), 3);
+        }
+        Check.type(x, "s>!Aa1;x2>$AB1");
+        check.call("begin() with x2 of two", x::begin, Check.ARGUMENT);
+        check.eq("fault() with x2 of two", x.fault(), 201);
+        check.eq("begin() of debts", Check.begin(x, "s>$AB1;s>$AB1;s>$AB1"), 3);
+        check.eq("owed(0, 1)", x.owed(0, 1), 3);
+        check.eq("begin() of terms", Check.begin(x, "s>!Aa1;s>~Aa1;s>?Aa1"), 3);
+        check.eq("one of each", 100 * x.count(0) + 10 * x.count(1) + x.count(2), 111);
+        Check.begin(x, "s[AB9]>!Aa1");
+        Check.begin(x, "s[AB9]>!Aa1");
+        Check.begin(x, "s>!Aa1");
+        check.eq("no condition is left", x.count(0), 1);
     }
 
     private static void faultTellsOfTheLatestBegin() {

@@ -82,6 +82,7 @@ final class QueryTest {
         PledgeMonitor y = Check.begun("s>$AB0;".repeat(9) + "s>!Aa0");
         y.nextDay();
         check.eq("breaches(9)", y.breaches(9), 1);
+        check.eq("breaches(10) of ten clauses", y.breaches(10), 0);
     }
 
     private static void may() {
