@@ -156,6 +156,7 @@ final class FaultTest {
         String edge = "Aa[AB1]>!Aa1;".repeat(9);
         check.eq("length of the edge", edge.length(), 117);
         fault(edge + "Aa>", 120);
+        fault(edge + "s>!", 120);
     }
 
     private static void nothingIsLeftOfOtherTexts() {
@@ -174,6 +175,9 @@ final class FaultTest {
         Check.begin(x, "s[AB9]>!Aa1");
         Check.begin(x, "s>!Aa1");
         check.eq("no condition is left", x.count(0), 1);
+        Check.type(x, "s>!Aa");
+        check.call("begin() where a longer text has been", x::begin, Check.ARGUMENT);
+        check.eq("fault() where a longer text has been", x.fault(), 5);
     }
 
     private static void faultTellsOfTheLatestBegin() {

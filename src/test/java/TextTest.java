@@ -20,8 +20,8 @@ final class TextTest {
         check.eq("new: today()", x.today(), -1);
         check.eq("new: fault()", x.fault(), -1);
         check.eq("new: erase()", x.erase(), 0);
-        check.no("new: stop()", x.stop());
         check.no("new: undo()", x.undo());
+        check.no("new: stop()", x.stop());
         check.call("new: begin()", x::begin, Check.ARGUMENT);
         for (int d = 0; d <= 60; d++) {
             check.yes("new: free(" + d + ")", x.free(d));
