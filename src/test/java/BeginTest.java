@@ -3,14 +3,15 @@ final class BeginTest {
     private static final Check check = new Check();
 
     public static void main(String[] args) {
-        startsRunByNumber();
-        calledClausesWaitBehindAllOthers();
-        conditionsAreLookedAtInTheirTurn();
-        businessDays();
-        aNewAgreementStartsAnew();
-        fullAgreements();
-        anAgreementGoesOnBehindBeginsThatThrow();
-        stopEndsIt();
+        check.each(
+                BeginTest::startsRunByNumber,
+                BeginTest::calledClausesWaitBehindAllOthers,
+                BeginTest::conditionsAreLookedAtInTheirTurn,
+                BeginTest::businessDays,
+                BeginTest::aNewAgreementStartsAnew,
+                BeginTest::fullAgreements,
+                BeginTest::anAgreementGoesOnBehindBeginsThatThrow,
+                BeginTest::stopEndsIt);
         check.end();
     }
 

@@ -3,16 +3,17 @@ final class CourseTest {
     private static final Check check = new Check();
 
     public static void main(String[] args) {
-        exceptionsInTheirOrder();
-        doingNothing();
-        oneEvent();
-        twoEvents();
-        theOrderOfCourses();
-        bansAndPowers();
-        breachesOfOthers();
-        fullIsNoCourse();
-        twoDays();
-        nothingChanges();
+        check.each(
+                CourseTest::exceptionsInTheirOrder,
+                CourseTest::doingNothing,
+                CourseTest::oneEvent,
+                CourseTest::twoEvents,
+                CourseTest::theOrderOfCourses,
+                CourseTest::bansAndPowers,
+                CourseTest::breachesOfOthers,
+                CourseTest::fullIsNoCourse,
+                CourseTest::twoDays,
+                CourseTest::nothingChanges);
         check.end();
     }
 

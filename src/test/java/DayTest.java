@@ -3,13 +3,14 @@ final class DayTest {
     private static final Check check = new Check();
 
     public static void main(String[] args) {
-        exceptions();
-        dutiesThatAreDue();
-        dutiesThatTheEndOfTheDayStarts();
-        whatRunsInWhichOrder();
-        bansAndPowersPass();
-        whatEndsOnlyBehindTheRun();
-        fullDaysChangeNothing();
+        check.each(
+                DayTest::exceptions,
+                DayTest::dutiesThatAreDue,
+                DayTest::dutiesThatTheEndOfTheDayStarts,
+                DayTest::whatRunsInWhichOrder,
+                DayTest::bansAndPowersPass,
+                DayTest::whatEndsOnlyBehindTheRun,
+                DayTest::fullDaysChangeNothing);
         check.end();
     }
 

@@ -3,15 +3,16 @@ final class EventTest {
     private static final Check check = new Check();
 
     public static void main(String[] args) {
-        exceptionsInTheirOrder();
-        bansAreBreached();
-        powersAreSpent();
-        theRightPowerIsSpent();
-        theRightDutyIsFulfilled();
-        aBreachAndAFulfilmentAtOnce();
-        whatRunsInWhichOrder();
-        fullEventsChangeNothing();
-        theLongestRow();
+        check.each(
+                EventTest::exceptionsInTheirOrder,
+                EventTest::bansAreBreached,
+                EventTest::powersAreSpent,
+                EventTest::theRightPowerIsSpent,
+                EventTest::theRightDutyIsFulfilled,
+                EventTest::aBreachAndAFulfilmentAtOnce,
+                EventTest::whatRunsInWhichOrder,
+                EventTest::fullEventsChangeNothing,
+                EventTest::theLongestRow);
         check.end();
     }
 

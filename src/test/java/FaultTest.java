@@ -3,160 +3,143 @@ final class FaultTest {
     private static final Check check = new Check();
 
     public static void main(String[] args) {
-        charactersThatCantStand();
-        textsThatEndTooEarly();
-        wrongReferences();
-        rounds();
-        agreements();
-        theSizeOfAText();
-        nothingIsLeftOfOtherTexts();
-        faultTellsOfTheLatestBegin();
+        check.each(
+                FaultTest::charactersThatCantStand,
+                FaultTest::textsThatEndTooEarly,
+                FaultTest::wrongReferences,
+                FaultTest::rounds,
+                FaultTest::agreements,
+                FaultTest::theSizeOfAText,
+                FaultTest::nothingIsLeftOfOtherTexts,
+                FaultTest::faultTellsOfTheLatestBegin);
         check.end();
-    }
-
-    private static void fault(String text, int want) {
-        PledgeMonitor x = new PledgeMonitor();
-        Check.type(x, text);
-        check.call("begin() of " + text, x::begin, Check.ARGUMENT);
-        check.eq("fault() of " + text, x.fault(), want);
-        check.eq("erase() of " + text, x.erase(), text.length());
-        check.eq("today() of " + text, x.today(), -1);
-    }
-
-    private static void fine(String text, int clauses) {
-        PledgeMonitor x = new PledgeMonitor();
-        Check.type(x, text);
-        check.call("begin() of " + text, x::begin, clauses);
-        check.eq("fault() of " + text, x.fault(), -1);
-        check.eq("erase() of " + text, x.erase(), 0);
-        check.eq("today() of " + text, x.today(), 0);
     }
 
     private static void charactersThatCantStand() {
         for (String start : new String[] {"D", "S", "a", "e", "1", ">", "[", ";", "!", "$", "~", "?", "]"}) {
-            fault(start + ">!Aa1", 0);
+            check.fault(start + ">!Aa1", 0);
         }
-        fault("Af>!Aa1", 1);
-        fault("AA>!Aa1", 1);
-        fault("xA>!Aa1", 1);
-        fault("x:>!Aa1", 1);
-        fault("f/>!Aa1", 1);
-        fault("sa>!Aa1", 1);
-        fault("s0>!Aa1", 1);
-        fault("=0>!Aa1", 1);
-        fault("Aaa>!Aa1", 2);
-        fault("x12>!Aa1", 2);
-        fault("s;>!Aa1", 1);
-        fault("s[DB1]>!Aa1", 2);
-        fault("s[AD1]>!Aa1", 3);
-        fault("s[AA1]>!Aa1", 3);
-        fault("s[CC1]>!Aa1", 3);
-        fault("s[Aa1]>!Aa1", 3);
-        fault("s[AB]>!Aa1", 4);
-        fault("s[AB10]>!Aa1", 5);
-        fault("s[>!Aa1", 2);
-        fault("s[A>!Aa1", 3);
-        fault("s[AB>!Aa1", 4);
-        fault("s[1]>!Aa1", 2);
-        fault("s[A1]>!Aa1", 3);
-        fault("s[AB1>!Aa1", 5);
-        fault("s[AB1][AB1]>!Aa1", 6);
-        fault("s[AB1]!Aa1", 6);
-        fault("s>Aa1", 2);
-        fault("s>[AB1]!Aa1", 2);
-        fault("s>>!Aa1", 2);
-        fault("s>!aA1", 3);
-        fault("s>!D", 3);
-        fault("s>!AB1", 4);
-        fault("s>~AB1", 4);
-        fault("s>?Af1", 4);
-        fault("s>!Aaa", 5);
-        fault("s>!Aa12", 6);
-        fault("s>!Aa1>", 6);
-        fault("s>!1", 3);
-        fault("s>!A1", 4);
-        fault("s>!a1", 3);
-        fault("s>$1", 3);
-        fault("s>$A1", 4);
-        fault("s>$AA1", 4);
-        fault("s>$BB1", 4);
-        fault("s>$Ab1", 4);
-        fault("s>$ABA", 5);
-        fault("s>=A", 3);
-        fault("s>=01", 4);
-        fault("s>!Aa1;;s>!Aa1", 7);
-        fault(";s>!Aa1", 0);
-        fault("s>!Aa1;q", 7);
-        fault("x9>!Aa1;q", 8);
-        fault("=>=0;q", 5);
+        check.fault("Af>!Aa1", 1);
+        check.fault("AA>!Aa1", 1);
+        check.fault("xA>!Aa1", 1);
+        check.fault("x:>!Aa1", 1);
+        check.fault("f/>!Aa1", 1);
+        check.fault("sa>!Aa1", 1);
+        check.fault("s0>!Aa1", 1);
+        check.fault("=0>!Aa1", 1);
+        check.fault("Aaa>!Aa1", 2);
+        check.fault("x12>!Aa1", 2);
+        check.fault("s;>!Aa1", 1);
+        check.fault("s[DB1]>!Aa1", 2);
+        check.fault("s[AD1]>!Aa1", 3);
+        check.fault("s[AA1]>!Aa1", 3);
+        check.fault("s[CC1]>!Aa1", 3);
+        check.fault("s[Aa1]>!Aa1", 3);
+        check.fault("s[AB]>!Aa1", 4);
+        check.fault("s[AB10]>!Aa1", 5);
+        check.fault("s[>!Aa1", 2);
+        check.fault("s[A>!Aa1", 3);
+        check.fault("s[AB>!Aa1", 4);
+        check.fault("s[1]>!Aa1", 2);
+        check.fault("s[A1]>!Aa1", 3);
+        check.fault("s[AB1>!Aa1", 5);
+        check.fault("s[AB1][AB1]>!Aa1", 6);
+        check.fault("s[AB1]!Aa1", 6);
+        check.fault("s>Aa1", 2);
+        check.fault("s>[AB1]!Aa1", 2);
+        check.fault("s>>!Aa1", 2);
+        check.fault("s>!aA1", 3);
+        check.fault("s>!D", 3);
+        check.fault("s>!AB1", 4);
+        check.fault("s>~AB1", 4);
+        check.fault("s>?Af1", 4);
+        check.fault("s>!Aaa", 5);
+        check.fault("s>!Aa12", 6);
+        check.fault("s>!Aa1>", 6);
+        check.fault("s>!1", 3);
+        check.fault("s>!A1", 4);
+        check.fault("s>!a1", 3);
+        check.fault("s>$1", 3);
+        check.fault("s>$A1", 4);
+        check.fault("s>$AA1", 4);
+        check.fault("s>$BB1", 4);
+        check.fault("s>$Ab1", 4);
+        check.fault("s>$ABA", 5);
+        check.fault("s>=A", 3);
+        check.fault("s>=01", 4);
+        check.fault("s>!Aa1;;s>!Aa1", 7);
+        check.fault(";s>!Aa1", 0);
+        check.fault("s>!Aa1;q", 7);
+        check.fault("x9>!Aa1;q", 8);
+        check.fault("=>=0;q", 5);
     }
 
     private static void textsThatEndTooEarly() {
         for (String whole : new String[] {"Aa[BC3]>!Ce9", "x1[AB0]>$CA0", "f1>=1", "=>~Bb1", "s>?Aa0"}) {
             for (int end = 0; end < whole.length(); end++) {
-                fault(whole.substring(0, end), end);
-                fault("s>!Aa1;s>!Aa1;" + whole.substring(0, end), 14 + end);
+                check.fault(whole.substring(0, end), end);
+                check.fault("s>!Aa1;s>!Aa1;" + whole.substring(0, end), 14 + end);
             }
         }
     }
 
     private static void wrongReferences() {
-        fault("x0>$AB1", 200);
-        fault("x1>!Aa1", 200);
-        fault("f0>~Aa1", 200);
-        fault("f0>?Aa1", 200);
-        fault("x0>?Aa1", 200);
-        fault("x1>!Aa1;s>=0", 200);
-        fault("s>!Aa1;x2>$AB1", 201);
-        fault("s>=9", 200);
-        fault("s>=1", 200);
-        fault("s>!Aa1;=>=0;s>=3", 202);
-        fault("s>=0;s>!Aa1;f3>!Aa1", 202);
-        fault("s>=0;s>~Aa1;f1>!Aa1;x0>!Aa1", 202);
-        fault("x1>=7;s>!Aa1", 200);
-        fault("s>$AB1;f1>=0;x0>=5", 201);
+        check.fault("x0>$AB1", 200);
+        check.fault("x1>!Aa1", 200);
+        check.fault("f0>~Aa1", 200);
+        check.fault("f0>?Aa1", 200);
+        check.fault("x0>?Aa1", 200);
+        check.fault("x1>!Aa1;s>=0", 200);
+        check.fault("s>!Aa1;x2>$AB1", 201);
+        check.fault("s>=9", 200);
+        check.fault("s>=1", 200);
+        check.fault("s>!Aa1;=>=0;s>=3", 202);
+        check.fault("s>=0;s>!Aa1;f3>!Aa1", 202);
+        check.fault("s>=0;s>~Aa1;f1>!Aa1;x0>!Aa1", 202);
+        check.fault("x1>=7;s>!Aa1", 200);
+        check.fault("s>$AB1;f1>=0;x0>=5", 201);
     }
 
     private static void rounds() {
-        fault("s>=0", 300);
-        fault("=>=0", 300);
-        fault("s>=1;s>=0", 300);
-        fault("s>=1;s>=1", 301);
-        fault("s>=2;s>$AB1;s>=3;s>=2", 302);
-        fault("s>=1;s>=2;s>=3;s>=4;s>=5;s>=6;s>=7;s>=8;s>=9;s>=0", 300);
-        fault("s>=1;s>=2;s>=3;s>=4;s>=5;s>=6;s>=7;s>=8;s>=9;s>=9", 309);
-        fault("s>=1;s>=2;s>=3;s>=4;s>=5;s>=6;s>=7;s>=8;s>=9;s>=5", 305);
-        fault("s>=4;s>=3;s>$AB1;s>=1;s>=4", 301);
-        fault("Aa[AB9]>=0", 300);
+        check.fault("s>=0", 300);
+        check.fault("=>=0", 300);
+        check.fault("s>=1;s>=0", 300);
+        check.fault("s>=1;s>=1", 301);
+        check.fault("s>=2;s>$AB1;s>=3;s>=2", 302);
+        check.fault("s>=1;s>=2;s>=3;s>=4;s>=5;s>=6;s>=7;s>=8;s>=9;s>=0", 300);
+        check.fault("s>=1;s>=2;s>=3;s>=4;s>=5;s>=6;s>=7;s>=8;s>=9;s>=9", 309);
+        check.fault("s>=1;s>=2;s>=3;s>=4;s>=5;s>=6;s>=7;s>=8;s>=9;s>=5", 305);
+        check.fault("s>=4;s>=3;s>$AB1;s>=1;s>=4", 301);
+        check.fault("Aa[AB9]>=0", 300);
     }
 
     private static void agreements() {
-        fine("s>!Aa0", 1);
-        fine("=>?Ce9", 1);
-        fine("x0>~Aa1", 1);
-        fine("x0>!Aa1", 1);
-        fine("f0>!Aa1", 1);
-        fine("Ce[CB9]>$BC0", 1);
-        fine("s>=2;s>=2;s>$AB1", 3);
-        fine("Aa>=1;f3>=2;x3>=3;x4>!Bb1;Cc>~Cc1", 5);
-        fine("s>$AB1;s>$AC1;s>$BA1;s>$BC1;s>$CA1;s>$CB1;s>=0;s>=0;s>=0;s>=0", 10);
+        check.fine("s>!Aa0", 1);
+        check.fine("=>?Ce9", 1);
+        check.fine("x0>~Aa1", 1);
+        check.fine("x0>!Aa1", 1);
+        check.fine("f0>!Aa1", 1);
+        check.fine("Ce[CB9]>$BC0", 1);
+        check.fine("s>=2;s>=2;s>$AB1", 3);
+        check.fine("Aa>=1;f3>=2;x3>=3;x4>!Bb1;Cc>~Cc1", 5);
+        check.fine("s>$AB1;s>$AC1;s>$BA1;s>$BC1;s>$CA1;s>$CB1;s>=0;s>=0;s>=0;s>=0", 10);
     }
 
     private static void theSizeOfAText() {
         String long9 = "Aa[AB1]>!Aa1;".repeat(8) + "Aa>!Aa1;";
         String full = long9 + "Aa>$AB12";
         check.eq("length", full.length(), 120);
-        fault(full, 119);
-        fine(long9 + "Aa>$AB1", 10);
-        fine("Aa[AB1]>!Aa1;".repeat(7) + "Aa[AB1]>=9;Aa[AB1]>=9;Aa>!Aa1", 10);
-        fault("s>=1;".repeat(10), 49);
-        fault("s>$AB1;".repeat(10) + "s>$AB1", 69);
-        fault("s>$AB1;".repeat(9) + "s>$AB1;", 69);
-        fault("s>$AB1;".repeat(9), 63);
+        check.fault(full, 119);
+        check.fine(long9 + "Aa>$AB1", 10);
+        check.fine("Aa[AB1]>!Aa1;".repeat(7) + "Aa[AB1]>=9;Aa[AB1]>=9;Aa>!Aa1", 10);
+        check.fault("s>=1;".repeat(10), 49);
+        check.fault("s>$AB1;".repeat(10) + "s>$AB1", 69);
+        check.fault("s>$AB1;".repeat(9) + "s>$AB1;", 69);
+        check.fault("s>$AB1;".repeat(9), 63);
         String edge = "Aa[AB1]>!Aa1;".repeat(9);
         check.eq("length of the edge", edge.length(), 117);
-        fault(edge + "Aa>", 120);
-        fault(edge + "s>!", 120);
+        check.fault(edge + "Aa>", 120);
+        check.fault(edge + "s>!", 120);
     }
 
     private static void nothingIsLeftOfOtherTexts() {

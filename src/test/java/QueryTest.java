@@ -3,13 +3,14 @@ final class QueryTest {
     private static final Check check = new Check();
 
     public static void main(String[] args) {
-        nothingWithoutAnAgreement();
-        today();
-        duty();
-        count();
-        breaches();
-        may();
-        owed();
+        check.each(
+                QueryTest::nothingWithoutAnAgreement,
+                QueryTest::today,
+                QueryTest::duty,
+                QueryTest::count,
+                QueryTest::breaches,
+                QueryTest::may,
+                QueryTest::owed);
         check.end();
     }
 

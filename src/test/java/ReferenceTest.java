@@ -1,16 +1,18 @@
 import java.util.Random;
 import java.util.function.LongSupplier;
 
-/** All promises: long runs of calls by chance (the same ones each time), compared with Reference. */
+/** All promises: runs of 512 calls by chance (the same ones each time), compared with Reference. */
 final class ReferenceTest {
-    private static final int RUNS = 1500;
-    private static final int CALLS = 60;
+    private static final int RUNS = 2000;
+    private static final int CALLS = 512;
+    private static final int ASKED = 6;
 
     private final Check check = new Check();
     private final Random random;
     private final PledgeMonitor monitor = new PledgeMonitor();
     private final Reference reference = new Reference();
     private final StringBuilder story = new StringBuilder();
+    private int calls = 0;
 
     private ReferenceTest(long seed) {
         random = new Random(seed);
@@ -28,8 +30,12 @@ final class ReferenceTest {
         for (int i = 0; i < 4; i++) {
             free(random.nextInt(64) - 2);
         }
-        for (int i = 0; i < CALLS; i++) {
-            if (!step() || !observe()) {
+        while (calls < CALLS) {
+            boolean alike = step();
+            for (int i = 0; i < ASKED && alike; i++) {
+                alike = ask();
+            }
+            if (!alike) {
                 System.out.println(story);
                 return false;
             }
@@ -39,7 +45,7 @@ final class ReferenceTest {
 
     private boolean step() {
         int what = random.nextInt(40);
-        if (monitor.today() == -1 || what == 0) {
+        if (reference.today() == -1 || what == 0) {
             return begin();
         }
         if (what == 1) {
@@ -85,36 +91,45 @@ final class ReferenceTest {
         return same("begin()", monitor::begin, reference::begin);
     }
 
-    private boolean observe() {
-        boolean alike = same("today()", monitor::today, reference::today)
-                && same("fault()", monitor::fault, reference::fault);
-        for (int i = -1; i < 11 && alike; i++) {
-            int at = i;
-            alike = same("duty(" + i + ")", () -> monitor.duty(at), () -> reference.duty(at))
-                    && same("count(" + i + ")", () -> monitor.count(at), () -> reference.count(at))
-                    && same("breaches(" + i + ")", () -> monitor.breaches(at), () -> reference.breaches(at));
+    private boolean ask() {
+        int one = random.nextInt(12) - 1;
+        int party = random.nextInt(20) == 0 ? random.nextInt(7) - 2 : random.nextInt(3);
+        int other = random.nextInt(20) == 0 ? random.nextInt(7) - 2 : random.nextInt(3);
+        int kind = random.nextInt(20) == 0 ? random.nextInt(9) - 2 : random.nextInt(3);
+        int days = random.nextInt(20) == 0 ? random.nextInt(5) - 1 : 1 + random.nextInt(2);
+        switch (random.nextInt(10)) {
+            case 0:
+                return same("today()", monitor::today, reference::today);
+            case 1:
+                return same("fault()", monitor::fault, reference::fault);
+            case 2:
+            case 3:
+                return same("duty(" + one + ")", () -> monitor.duty(one), () -> reference.duty(one));
+            case 4:
+                return same("count(" + other + ")", () -> monitor.count(other), () -> reference.count(other));
+            case 5:
+                return same("breaches(" + one + ")", () -> monitor.breaches(one), () -> reference.breaches(one));
+            case 6:
+                return same("may(" + party + ", " + kind + ")",
+                        () -> monitor.may(party, kind), () -> reference.may(party, kind));
+            case 7:
+                return same("owed(" + party + ", " + other + ")",
+                        () -> monitor.owed(party, other), () -> reference.owed(party, other));
+            case 8:
+                return same("course(" + party + ", " + days + ")",
+                        () -> monitor.course(party, days), () -> reference.course(party, days));
+            default:
+                return same("threat(" + party + ", " + days + ")",
+                        () -> monitor.threat(party, days), () -> reference.threat(party, days));
         }
-        for (int i = 0; i < 35 && alike; i++) {
-            int party = i / 7 - 1;
-            int kind = i % 7 - 1;
-            alike = same("may(" + party + ", " + kind + ")",
-                    () -> monitor.may(party, kind), () -> reference.may(party, kind))
-                    && same("owed(" + party + ", " + kind + ")",
-                    () -> monitor.owed(party, kind), () -> reference.owed(party, kind));
-        }
-        if (random.nextInt(2) > 0) {
-            return alike;
-        }
-        int party = random.nextInt(30) == 0 ? -1 : random.nextInt(3);
-        int days = random.nextInt(30) == 0 ? 3 : 1 + random.nextInt(2);
-        return alike
-                && same("course(" + party + ", " + days + ")",
-                () -> monitor.course(party, days), () -> reference.course(party, days))
-                && same("threat(" + party + ", " + days + ")",
-                () -> monitor.threat(party, days), () -> reference.threat(party, days));
     }
 
+    /** Whether both answer alike; behind the calls that an object is used for, nothing is asked. */
     private boolean same(String call, LongSupplier got, LongSupplier want) {
+        if (calls >= CALLS) {
+            return true;
+        }
+        calls++;
         long due = Check.answer(want);
         long answered = Check.answer(got);
         story.append(call).append(" -> ").append(Check.name(due)).append('\n');

@@ -3,14 +3,15 @@ final class TextTest {
     private static final Check check = new Check();
 
     public static void main(String[] args) {
-        aNewObject();
-        typeReadsTheLowestBitsFirst();
-        typeEndsAtZero();
-        typeRefusesOtherCharacters();
-        typeRefusesMoreThanThereIsRoomFor();
-        eraseTellsHowManyThereWere();
-        freeTurnsADay();
-        freeIsRefusedWhileAnAgreementRuns();
+        check.each(
+                TextTest::aNewObject,
+                TextTest::typeReadsTheLowestBitsFirst,
+                TextTest::typeEndsAtZero,
+                TextTest::typeRefusesOtherCharacters,
+                TextTest::typeRefusesMoreThanThereIsRoomFor,
+                TextTest::eraseTellsHowManyThereWere,
+                TextTest::freeTurnsADay,
+                TextTest::freeIsRefusedWhileAnAgreementRuns);
         check.end();
     }
 

@@ -3,12 +3,13 @@ final class ThreatTest {
     private static final Check check = new Check();
 
     public static void main(String[] args) {
-        exceptionsInTheirOrder();
-        noThreat();
-        theFirstThreat();
-        eventsThatAreNotLookedAt();
-        oneDayAndTwo();
-        nothingChanges();
+        check.each(
+                ThreatTest::exceptionsInTheirOrder,
+                ThreatTest::noThreat,
+                ThreatTest::theFirstThreat,
+                ThreatTest::eventsThatAreNotLookedAt,
+                ThreatTest::oneDayAndTwo,
+                ThreatTest::nothingChanges);
         check.end();
     }
 

@@ -3,12 +3,13 @@ final class UndoTest {
     private static final Check check = new Check();
 
     public static void main(String[] args) {
-        everythingComesBack();
-        onlyTwelveAreKept();
-        keptStatesMakeRoomAgain();
-        throwingCallsKeepNothing();
-        beginAndStopKeepNone();
-        whatIsNoPartOfTheState();
+        check.each(
+                UndoTest::everythingComesBack,
+                UndoTest::onlyTwelveAreKept,
+                UndoTest::keptStatesMakeRoomAgain,
+                UndoTest::throwingCallsKeepNothing,
+                UndoTest::beginAndStopKeepNone,
+                UndoTest::whatIsNoPartOfTheState);
         check.end();
     }
 
